@@ -39,7 +39,7 @@ public final class EndlessRows {
     private static final int NO_FIT = 14;
     private static final int BY_NOUGHT = 15;
 
-    // Forms of parts, of which the joining ones are also the ways to join two machines.
+    // Forms of parts; and, or, so are also ways to join the marks of two machines, behind the ways of a pair.
     private static final int SUM_ATOM = 0;
     private static final int ROW_ATOM = 1;
     private static final int NOT_PART = 2;
@@ -49,7 +49,7 @@ public final class EndlessRows {
     private static final int ALL_PART = 6;
     private static final int IS_PART = 7;
 
-    // Ways of a pair, as told by the caller; JOINS of forms stand behind them.
+    // Ways of a pair.
     private static final int SAME_WAY = 0;
     private static final int SUM_WAY = 1;
     private static final int GREATER_WAY = 2;
@@ -548,8 +548,11 @@ public final class EndlessRows {
         }
 
         int after(int state, int digits) {
+            if (state < 0 || state >= states || digits < 0 || digits >= fan) {
+                return 0;
+            }
             int place = state * fan + digits;
-            return within(state, states) && within(digits, fan) && within(place, moves.length) ? moves[place] : 0;
+            return place < moves.length ? moves[place] : 0;
         }
 
         int mark(int state) {
@@ -582,6 +585,13 @@ public final class EndlessRows {
                     put(i, digits, other.after(i, digits));
                 }
             }
+        }
+
+        /** The machine of no names that tells this mark. */
+        void becomeOnly(int mark) {
+            size(1, 1);
+            put(0, 0, 0);
+            putMark(0, mark);
         }
 
         void becomeContrary(Least other) {
@@ -758,7 +768,7 @@ public final class EndlessRows {
         }
 
         private int byteAt(int at) {
-            return within(at, length) ? text[at] : NONE;
+            return at >= 0 && at < length ? text[at] : NONE;
         }
 
         private boolean isLetter(int at) {
@@ -861,6 +871,7 @@ public final class EndlessRows {
         private static final int DEEPEST = 10;
         // No text of a tape has as many formulas one within the other.
         private static final int MOST_OPEN = 40;
+        private static final int WIDEST_SUMMED = 6;
 
         private final Tokens tokens = new Tokens();
         private final Part[] parts = new Part[MOST_PARTS];
@@ -900,7 +911,7 @@ public final class EndlessRows {
             told.clear();
             int crowded = crowded();
             if (broken != NONE) {
-                told.blame(1, broken);
+                told.blame(1, tokens.places[broken]);
             } else if (odd != NONE) {
                 told.blame(2, odd);
             } else if (crowded != NONE) {
@@ -942,10 +953,10 @@ public final class EndlessRows {
             return true;
         }
 
-        // The first token that can't stand where it stands.
+        // The token that can't stand where it stands: the first one, for nothing is read behind it.
         private int fail() {
             if (broken == NONE) {
-                broken = place();
+                broken = Math.min(at, TAPE_ROOM);
             }
             return NONE;
         }
@@ -1098,30 +1109,18 @@ public final class EndlessRows {
                 return false;
             }
             boolean more = peek() == PLUS;
-            if (more && !further(side)) {
-                return false;
+            if (more) {
+                at++;
+                if (!takeTerm(side, 3)) {
+                    return false;
+                }
             }
-            if (row >= rowCount || more && rows[row].least.states > 6) {
+            if (row >= rowCount || more && rows[row].least.states > WIDEST_SUMMED) {
                 blame(place);
             } else {
                 named |= 1 << row;
             }
             return eat(RIGHT);
-        }
-
-        // The plus in an index and what stands behind it.
-        private boolean further(Side side) {
-            at++;
-            if (peek() == NUMBER) {
-                side.number = worth();
-                if (worth() > 3) {
-                    blame(place());
-                }
-                at++;
-                return true;
-            }
-            side.addName(worth());
-            return eat(NAME);
         }
 
         private int sumAtom() {
@@ -1143,29 +1142,33 @@ public final class EndlessRows {
 
         private boolean sum(Side side) {
             side.clear();
-            if (!term(side)) {
-                return false;
-            }
-            for (int i = 0; i < TAPE_ROOM && peek() == PLUS; i++) {
-                at++;
-                if (!term(side)) {
+            for (int i = 0; i < TAPE_ROOM; i++) {
+                if (!takeTerm(side, 99)) {
                     return false;
                 }
-            }
-            return true;
-        }
-
-        private boolean term(Side side) {
-            if (peek() == NUMBER) {
-                side.number += worth();
-                if (side.number > 99) {
-                    blame(place());
+                if (peek() != PLUS) {
+                    return true;
                 }
                 at++;
-                return true;
             }
-            side.addName(worth());
-            return eat(NAME);
+            return false;
+        }
+
+        // A number or a name, where the numbers so far may not make more than a told one.
+        private boolean takeTerm(Side side, int most) {
+            if (peek() == NUMBER) {
+                side.number += worth();
+                if (side.number > most) {
+                    blame(place());
+                }
+            } else if (peek() == NAME) {
+                side.addName(worth());
+            } else {
+                fail();
+                return false;
+            }
+            at++;
+            return true;
         }
     }
 
@@ -1226,7 +1229,11 @@ public final class EndlessRows {
 
         private int linkOf(int id, int digits) {
             int place = id * fan + digits;
-            return within(place, links.length) && within(links[place], met) ? links[place] : 0;
+            if (place < 0 || place >= links.length) {
+                return 0;
+            }
+            int to = links[place];
+            return to >= 0 && to < met ? to : 0;
         }
 
         /** Draws the least machine, unless it has more than so many states. */
@@ -1240,7 +1247,7 @@ public final class EndlessRows {
                 many = more;
                 digits = digits + 1 < fan ? digits + 1 : 0;
             }
-            if (many > most) {
+            if (many < 1 || many > most) {
                 return false;
             }
             number(into, many);
@@ -1494,20 +1501,17 @@ public final class EndlessRows {
         }
 
         private boolean weaveRows(Part part, Row[] rows, int rowCount) {
-            return weaveSide(part.leftSide, rows, rowCount, leftLetters)
-                && weaveSide(part.rightSide, rows, rowCount, rightLetters)
-                && product(leftLetters, part.leftSide.names, rightLetters, part.rightSide.names,
-                    SAME_WAY, part.least, LEAST_STATES);
-        }
-
-        private boolean weaveSide(Side side, Row[] rows, int rowCount, Least into) {
-            if (within(side.row, rowCount) && within(side.row, rows.length)) {
-                return weaveLetters(side, rows[side.row].least, into);
+            Side left = part.leftSide;
+            Side right = part.rightSide;
+            if (!within(left.row, rowCount) || !weaveLetters(left, rows[left.row].least, leftLetters)) {
+                return false;
             }
-            into.size(1, 1);
-            into.put(0, 0, 0);
-            into.putMark(0, side.number);
-            return true;
+            if (!within(right.row, rowCount)) {
+                rightLetters.becomeOnly(right.number);
+            } else if (!weaveLetters(right, rows[right.row].least, rightLetters)) {
+                return false;
+            }
+            return product(leftLetters, left.names, rightLetters, right.names, SAME_WAY, part.least, LEAST_STATES);
         }
 
         // A state tells, for each j up to the last, where the row's machine stands behind the sum so far plus j.
@@ -1520,7 +1524,7 @@ public final class EndlessRows {
             int fan = fan(side.names);
             loom.open(power(row.states, last + 1), fan);
             for (int j = 0; j <= last; j++) {
-                places[j] = row.reads(j, base);
+                places[j] = row.readsAll(1, j, 0, 0, base);
             }
             loom.meet(keyOfPlaces(row.states, last));
             for (int id = 0; id < loom.met && id < Loom.MOST_MET; id++) {
@@ -1554,7 +1558,7 @@ public final class EndlessRows {
             return wide > 0 ? rest % wide : 0;
         }
 
-        // A state is the left sum less the right one, without their numbers; behind either end no digits bring it back.
+        // A state is the left sum less the right one, without their numbers; from either end no digits bring it back.
         private boolean weaveSums(Part part) {
             int less = part.leftSide.number - part.rightSide.number;
             int lowest = 0;
