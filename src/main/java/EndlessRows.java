@@ -4,10 +4,11 @@ import java.util.Arrays;
 public final class EndlessRows {
     public static final int NONE = -1;
 
+    // The highest number that is told or answered.
     private static final long TOP = 1L << 62;
     // Stands for every number above TOP.
     private static final long OVER = TOP + 1;
-    private static final int NO_NAME = -2;
+    private static final int NO_ANSWER = -2;
     private static final int TOO_HIGH = -3;
 
     private static final int ROOM = 10;
@@ -281,7 +282,7 @@ public final class EndlessRows {
 
     public long differ(int a, int b) {
         if (!within(a, rowCount) || !within(b, rowCount)) {
-            return NO_NAME;
+            return NO_ANSWER;
         }
         return reckoner.leastUnlike(rows[a].least, rows[b].least, base);
     }
@@ -295,7 +296,7 @@ public final class EndlessRows {
             case 0: return told.fault;
             case 1: return told.place;
             case 2: return told.spent;
-            default: return told.fault != 0 ? -2 : told.more(what);
+            default: return told.fault != 0 ? NO_ANSWER : told.more(what);
         }
     }
 
@@ -330,20 +331,20 @@ public final class EndlessRows {
     public long next(int question, long above) {
         Least least = asked(question, 1);
         if (least == null || above < -1 || above > TOP) {
-            return NO_NAME;
+            return NO_ANSWER;
         }
         return reckoner.leastAbove(least, above, base);
     }
 
     public long many(int question) {
         Least least = asked(question, 1);
-        return least == null ? NO_NAME : reckoner.howMany(least, base);
+        return least == null ? NO_ANSWER : reckoner.howMany(least, base);
     }
 
     public long values(int question, long second) {
         Least least = asked(question, 2);
         if (least == null || second < 0 || second > 1L << 30) {
-            return NO_NAME;
+            return NO_ANSWER;
         }
         return reckoner.howManyFirst(least, second, base);
     }
@@ -537,6 +538,9 @@ public final class EndlessRows {
 
     /** A least machine, its states numbered as they are met; each has a mark (a letter, or whether it takes). */
     private static final class Least {
+        // 3 to the 39, the highest power of 3 that is not above TOP.
+        private static final long HIGHEST_OF_THREE = 4052555153018976267L;
+
         private final int[] moves;
         private final int[] marks;
         private int states = 0;
@@ -625,7 +629,7 @@ public final class EndlessRows {
         /** The state behind the digits of the first so many of three numbers; noughts ahead lead nowhere. */
         int readsAll(int many, long first, long second, long third, int base) {
             int state = 0;
-            long power = base == 2 ? TOP : 4052555153018976267L;
+            long power = base == 2 ? TOP : HIGHEST_OF_THREE;
             for (int i = 0; i < 63 && power > 0 && base > 1; i++) {
                 int digits = 0;
                 if (many > 0) {
@@ -683,7 +687,7 @@ public final class EndlessRows {
                 return parts;
             }
             if (what == 8) {
-                return spent != NONE ? -2 : least.states;
+                return spent != NONE ? NO_ANSWER : least.states;
             }
             return freeName(what - 4);
         }

@@ -1271,7 +1271,7 @@ public final class EndlessRowsOracleTest {
         }
 
         int forge(int what, int n, int k) {
-            if (what < 0 || what > 6 || Math.abs(n) > 100 || Math.abs(k) > 100) {
+            if (what < 0 || what > 6 || n < -100 || n > 100 || k < -100 || k > 100) {
                 return no(1);
             }
             Row row = row((k % 10 + 10) % 10);
@@ -1422,6 +1422,8 @@ public final class EndlessRowsOracleTest {
 
     /** One run of random calls, asked of both. */
     private static final class Run {
+        static final int[] WILD = {Integer.MIN_VALUE, Integer.MIN_VALUE + 1, Integer.MAX_VALUE, Integer.MAX_VALUE - 1,
+            1 << 30, -(1 << 30), 1 << 16, 65535, 715827883, 268435456};
         final Random random;
         final long seed;
         final EndlessRows x = new EndlessRows();
@@ -1455,10 +1457,16 @@ public final class EndlessRowsOracleTest {
         }
 
         int some(int low, int high) {
+            if (random.nextInt(300) == 0) {
+                return WILD[random.nextInt(WILD.length)];
+            }
             return random.nextInt(50) == 0 ? random.nextInt(41) - 20 : low + random.nextInt(high - low + 1);
         }
 
         int among(int size) {
+            if (random.nextInt(300) == 0) {
+                return WILD[random.nextInt(WILD.length)];
+            }
             return random.nextInt(12) == 0 || size == 0 ? random.nextInt(14) - 2 : random.nextInt(size);
         }
 
@@ -1468,6 +1476,7 @@ public final class EndlessRowsOracleTest {
                 case 1: return TOP + random.nextInt(2);
                 case 2: return -1 - random.nextInt(2);
                 case 3: return random.nextLong() >>> 2 + random.nextInt(60);
+                case 4: return random.nextInt(20) == 0 ? random.nextLong() : random.nextInt(100);
                 default: return random.nextInt(1 << 1 + random.nextInt(8));
             }
         }

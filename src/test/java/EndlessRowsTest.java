@@ -26,6 +26,7 @@ public final class EndlessRowsTest {
         faultsOfNames();
         spentByStates();
         spentByLetters();
+        spentBySets();
         promise12();
         promise13();
         promise14();
@@ -724,6 +725,24 @@ public final class EndlessRowsTest {
         yes("40 and the first one", x.pair(6, 7, 1), 8);
         due("width", x.width(8), 41);
         spent("0 = 0 and r8[a] = 7", 16);
+    }
+
+    // Found by a search with the oracle: all of these hold always or never, so that only the sets are many.
+    private static void spentBySets() {
+        fresh(2);
+        sheet(0, 0, 0, 1, 0, 0);
+        yes("grown", x.grown(0, 0, 2), 0);
+        spent("is b (a + a < c + b + 53 or r0[a + b] = 0)", -1);
+        spent("all b not (a + a < c + b + 53 or r0[a + b] = 0)", -1);
+        spent("is b (a + a < c + b + b + 52 or r0[a + b] = 1)", -1);
+        spent("is b (a < c + b + 76 or r0[a + b] = 0)", 0);
+        spent("all b not (a < c + b + 76 or r0[a + b] = 0)", 0);
+        spent("not is b (a < c + b + 72 so r0[a + b] = 1)", 4);
+        ask("is b (a + a < c + b + 53 or r0[a + b] = 0)");
+        due("one state", x.told(0, 8), 1);
+        due("it always holds", x.takes(0, 0), 1);
+        ask("a + a < c + b + b + 52 or r0[a + b] = 1");
+        due("forty states", x.told(1, 8), 40);
     }
 
     // ---------------------------------------------------------------- asking
