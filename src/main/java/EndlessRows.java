@@ -737,7 +737,6 @@ public final class EndlessRows {
         private int place = 0;
         private int left = NONE;
         private int right = NONE;
-        private int name = 0;
         private int sign = EQUAL;
         private int names = 0;
     }
@@ -1023,8 +1022,7 @@ public final class EndlessRows {
         private int bind(int form, int depth, int open) {
             int place = place();
             at++;
-            int name = worth();
-            int bit = 1 << name;
+            int bit = 1 << worth();
             if (peek() == NAME && (bound & bit) != 0) {
                 blame(place());
             }
@@ -1040,7 +1038,6 @@ public final class EndlessRows {
             }
             int part = join(form, place, inner, NONE);
             if (part >= 0) {
-                parts[part].name = name;
                 parts[part].names &= ~bit;
             }
             return part;

@@ -570,6 +570,18 @@ public final class EndlessRowsTest {
         fault("a = 1 not a = 1", 1, 6);
         fault("a = 1 is b b = 1", 1, 6);
         fault("nota = 1", 1, 0);
+        fault("az = 1", 1, 0);
+        fault("zz = 1", 1, 0);
+        fault("ull a a = 1", 1, 0);
+        fault("us a a = 1", 1, 0);
+        fault("bot a = 1", 1, 0);
+        fault("a = 1 bnd a = 1", 1, 6);
+        fault("a = 1 pr a = 1", 1, 6);
+        fault("a = 1 no a = 1", 1, 6);
+        fault("a = 1 ands a = 1", 1, 6);
+        fault("a+".repeat(60), 1, 120);
+        fault("a+".repeat(59) + "a", 1, 119);
+        fault("a+".repeat(58) + "a=b)", 1, 119);
         fault("or0 = 0", 1, 0);
         fault("A = 1", 1, 0);
         fault("a\t= 1", 1, 1);
@@ -672,6 +684,7 @@ public final class EndlessRowsTest {
 
     private static void spentByStates() {
         fresh(2);
+        spent(times(59), 117);
         spent(times(39), -1);
         spent(times(40), 79);
         ask(times(39));
@@ -784,6 +797,12 @@ public final class EndlessRowsTest {
         yes("one more", x.pair(0, 0, 0), 4);
         yes("a pair", x.drop(0), 4);
         due("rows", x.count(0), 4);
+        fresh(2);
+        ask("a = 1");
+        yes("the first row", x.sought(0), 0);
+        no("the first question", x.drop(1), 3);
+        due("a row names itself in the next one", ask("r0[a] = 1"), 1);
+        no("the first row", x.drop(0), 3);
     }
 
     private static void promise13() {
@@ -1265,6 +1284,14 @@ public final class EndlessRowsTest {
         ask(times(40));
         due("spent", x.alike(9, 9), -1);
         fresh(2);
+        thueMorse();
+        sheet(1, 0, 0, 1, 0, 0);
+        yes("grown", x.grown(1, 0, 2), 1);
+        ask("r0[a] = 1");
+        ask("r1[a] = 1");
+        due("unlike in one step by 0", x.alike(0, 1), 0);
+        due("unlike in one step by 0", x.alike(1, 0), 0);
+        fresh(2);
         ask("0 = 0");
         ask("a = a");
         ask("0 = 1");
@@ -1349,6 +1376,7 @@ public final class EndlessRowsTest {
         no("k 101", x.forge(1, 0, 101), 1);
         no("k -101", x.forge(1, 0, -101), 1);
         yes("n 100, k 100", x.forge(1, 100, 100), 100);
+        yes("n -100, k -100", x.forge(5, -100, -100), -10);
         boolean[][] fits = {
             {true, false, false, false, false},
             {true, true, false, false, false},
