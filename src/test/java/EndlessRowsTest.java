@@ -903,22 +903,29 @@ public final class EndlessRowsTest {
         yes("number 0", x.cell(1, 0, 5), 1);
         yes("unlike at once", x.ring(1, 0, 6, 2), 3);
         due("0 is", x.differ(0, 3), 0);
-        // Rows of 0 for as many digits as can be divided by 5 and 7, or by 6 and 7, else of 1.
+        // Rows of 0 for as many digits as can be divided by 35, or by 42, else of 1.
         for (int base = 2; base < 4; base++) {
             fresh(base);
-            divided(5);
-            divided(7);
-            divided(6);
+            divided(5, 0);
+            divided(7, 0);
+            divided(6, 0);
             yes("by 35", x.pair(0, 1, 2), 3);
             yes("by 42", x.pair(2, 1, 2), 4);
             yes("always 1", x.pair(0, 0, 0), 5);
             due("35 digits", x.differ(3, 5), base == 2 ? 1L << 34 : 16677181699666569L);
             due("42 digits", x.differ(5, 4), base == 2 ? 1L << 41 : -3);
             due("35 digits", x.differ(4, 3), base == 2 ? 1L << 34 : 16677181699666569L);
+            // 28 digits are in both; the next are 63 in the one, 70 in the other.
+            divided(5, 3);
+            divided(6, 4);
+            yes("28 and 35 more", x.pair(6, 1, 2), 8);
+            yes("28 and 42 more", x.pair(7, 1, 2), 9);
+            due("63 digits", x.differ(8, 9), base == 2 ? TOP : -3);
         }
     }
 
-    private static void divided(int n) {
+    /** A machine of 0 for as many digits as leave this rest when divided by n (at least one), else of 1. */
+    private static void divided(int n, int rest) {
         int base = x.count(3);
         int[] steps = new int[(n + 1) * base];
         int[] letters = new int[n + 1];
@@ -926,7 +933,7 @@ public final class EndlessRowsTest {
             for (int d = 0; d < base; d++) {
                 steps[i * base + d] = i == n ? 1 : i + 1;
             }
-            letters[i] = i == n ? 0 : 1;
+            letters[i] = i > 0 && i % n == rest ? 0 : 1;
         }
         sheet(4, 0, steps);
         sheet(5, 0, letters);
@@ -1173,15 +1180,20 @@ public final class EndlessRowsTest {
         due("never", x.next(5, -1), -1);
         for (int base = 2; base < 4; base++) {
             fresh(base);
-            divided(5);
-            divided(7);
+            divided(5, 0);
+            divided(7, 0);
             ask("r0[a] = 0 and r1[a] = 0");
+            due("endlessly many, though far between", x.many(0), -1);
             long least = base == 2 ? 1L << 34 : 16677181699666569L;
             due("35 digits", x.next(0, -1), least);
             due("one more", x.next(0, least), least + 1);
             due("70 digits", x.next(0, TOP - 1), -3);
             due("70 digits", x.next(0, least * base - 1), -3);
             due("the last one", x.next(0, least * base - 2), least * base - 1);
+            ask("is b a = b + b");
+            due("up to the top", x.next(1, TOP - 2), TOP);
+            due("up to the top", x.next(1, TOP - 1), TOP);
+            due("above it", x.next(1, TOP), -3);
         }
         fresh(3);
         ask("is b (a = b + b + b + 1)");
@@ -1243,6 +1255,12 @@ public final class EndlessRowsTest {
         due("spent", x.values(6, 5), -2);
         due("no question", x.values(7, 5), -2);
         due("no question", x.values(-1, 5), -2);
+        divided(5, 0);
+        divided(7, 0);
+        yes("drop", x.drop(1), 6);
+        ask("r0[a] = 0 and r1[a] = 0 and b = 1");
+        due("endlessly many, though far between", x.values(6, 1), -1);
+        due("none", x.values(6, 2), 0);
         ask("b < a and (b = 3 so a < 9)");
         due("a few", x.values(7, 3), 5);
         due("endlessly many", x.values(7, 4), -1);
