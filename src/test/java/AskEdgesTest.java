@@ -12,6 +12,7 @@ public final class AskEdgesTest extends Court {
         anAtomHasUpToFortyStates();
         anAtomOfRowsHasUpToFortyStates();
         theLettersHaveUpToFortyStates();
+        theLettersOfSumsHaveUpToFortyStates();
         andOrSoHaveUpToFortyStates();
         aBoundPartHasUpToFortyStates();
         upToThreeHundredSetsAreMet();
@@ -127,6 +128,47 @@ public final class AskEdgesTest extends Court {
         does("42 wide", 2, e -> e.pair(0, 1, 0));
         int q = ask("r2[a]=7");
         is("42 wide", 5, e -> e.told(q, 2));
+    }
+
+    /** Rows 0 and 1 are 5 and 6 wide; the letters of a number and 3 need 40 states of the one, 41 of the other. */
+    private static void lettersOfSums() {
+        fresh(2);
+        sheet(0, 0, 0, 3, 2, 0, 4, 4, 1, 1, 1, 3);
+        sheet(1, 0, 0, 1, 3, 1, 0);
+        does("machine", 0, e -> e.machine(0, 1, 0, 5));
+        sheet(0, 0, 0, 2, 4, 5, 5, 3, 1, 1, 4, 0, 1, 3);
+        sheet(1, 0, 0, 1, 0, 1, 1, 0);
+        does("machine", 1, e -> e.machine(0, 1, 0, 6));
+    }
+
+    private static void theLettersOfSumsHaveUpToFortyStates() {
+        scene = AskEdgesTest::lettersOfSums;
+        stands("r0[a+3]=7", 1);
+        spent("r1[a+3]=7", 7);
+        spent("r1[h + 3] = r0[a]", 10);
+        spent("r0[a+3]=r1[a+3]", 7);
+        spent("r0[b]=r1[a+3]", 5);
+        for (int base = 2; base < 4; base++) {
+            int now = base;
+            scene = () -> {
+                fresh(now);
+                counting(6, false);
+            };
+            stands("r0[a+b]=0", 36);
+            stands("r0[a+b]=r0[c]", 36);
+            stands("r0[a+1]=r0[b]", 36);
+            for (int a = 0; a < 9; a++) {
+                scene.run();
+                int q = ask("r0[a+b]=2");
+                for (int b = 0; b < 200; b++) {
+                    int first = a * 37;
+                    int second = b;
+                    long others = Long.toString(first + second, base).chars().filter(c -> c != '0').count();
+                    is("digits but noughts of " + first + " + " + b, others % 6 == 2 ? 1 : 0,
+                        e -> e.holds(q, first, second, 0));
+                }
+            }
+        }
     }
 
     private static void andOrSoHaveUpToFortyStates() {
@@ -336,14 +378,17 @@ public final class AskEdgesTest extends Court {
     // ---------------------------------------------------------------- next
 
     private static void nextIsAboveATold() {
-        fresh(2);
-        int q = ask("a=0 or a=5 or a=6 or a=90");
-        long[] above = {-1, 0, 1, 4, 5, 6, 7, 89, 90, 91, TOP - 1, TOP};
-        long[] next = {0, 5, 5, 5, 6, 90, 90, 90, -1, -1, -1, -1};
-        for (int i = 0; i < above.length; i++) {
-            long told = above[i];
-            is("next above " + told, next[i], e -> e.next(q, told));
+        long[] above = {-1, 0, 1, 4, 5, 6, 7, 26, 30, 53, 79, 80, 81, TOP - 1, TOP};
+        long[] next = {0, 5, 5, 5, 6, 80, 80, 80, 80, 80, 80, -1, -1, -1, -1};
+        for (int base = 3; base > 1; base--) {
+            fresh(base);
+            int q = ask("a=0 or a=5 or a=6 or a=80");
+            for (int i = 0; i < above.length; i++) {
+                long told = above[i];
+                is("next above " + told, next[i], e -> e.next(q, told));
+            }
         }
+        int q = 0;
         for (long none : new long[] {Long.MIN_VALUE, -TOP, -3, -2, TOP + 1, TOP + 2, Long.MAX_VALUE}) {
             is("next above " + none, -2, e -> e.next(q, none));
         }
@@ -429,6 +474,11 @@ public final class AskEdgesTest extends Court {
             is("0 has no digits", 0, e -> e.next(apart, -1));
             is("35 digits", least, e -> e.next(apart, 0));
             is("70 digits", -3, e -> e.next(apart, TOP));
+            int powers = ask("r2[a]=1");
+            is("endlessly many, though but one of each length", -1, e -> e.many(powers));
+            int beside = ask("r2[a]=1 and b<5");
+            is("endlessly many, though but one of each length", -1, e -> e.values(beside, 4));
+            is("none", 0, e -> e.values(beside, 5));
         }
     }
 

@@ -8,6 +8,19 @@ public final class TextEdgesTest extends Court {
         "[", "b", "+", "3", "]", "or", "not", "a", "+", "1", "<=", "b", "+", "b", ")", "and", "0", "=", "0", "so", "a", "<",
         "12", ")", ")"};
 
+    /** Every token there is, each with the sign that tells it below. */
+    private static final String[] ALL = {"(", ")", "[", "]", "+", "=", "<", "<=", "all", "is", "not", "and", "or", "so", "c",
+        "7", "r0"};
+    private static final String SIGNS = "()[]+=<LAINDOSn0r";
+    private static final String BEGINS = "(AINn0r";
+    private static final String ENDS = ")DOS";
+    private static final String LEFT = "+=<L";
+
+    /** What can stand where each of TOKENS stands. */
+    private static final String[] CAN_STAND = {BEGINS, BEGINS, "n", BEGINS, BEGINS, "n", BEGINS, BEGINS, "[", "n", "+]", "n0",
+        "]", "=", "0r", "[", "n", "+]", "n0", "]", ENDS, BEGINS, BEGINS, LEFT, "n0", LEFT, "n0", "+" + ENDS, "n0",
+        "+" + ENDS, ENDS, BEGINS, LEFT, "n0", "+" + ENDS, BEGINS, LEFT, "n0", "+" + ENDS, ENDS, "DOS"};
+
     // What is made ahead of each text.
     private static Runnable scene = Court::thueMorse;
 
@@ -32,6 +45,7 @@ public final class TextEdgesTest extends Court {
         scene = Court::thueMorse;
         textsThatEndTooEarly();
         theFirstTokenThatCannotStand();
+        whatCanStandWhere();
         tokensOfAtoms();
         scene = () -> fresh(2);
         tenOthersAreTooMany();
@@ -374,6 +388,25 @@ public final class TextEdgesTest extends Court {
             String text = joined(many, " ");
             for (String none : new String[] {"i", "123", "$", "ands", "r"}) {
                 fault(text + none + " ) 456", 1, text.length());
+            }
+        }
+    }
+
+    /** Each token in the place of each one of the text (and behind the last one). */
+    private static void whatCanStandWhere() {
+        for (int i = 0; i <= TOKENS.length; i++) {
+            String ahead = joined(i, " ");
+            String behind = i < TOKENS.length ? joined(TOKENS.length, " ").substring(joined(i + 1, " ").length()) : "";
+            for (int j = 0; j < ALL.length; j++) {
+                String text = ahead + ALL[j] + " " + behind;
+                if (CAN_STAND[i].indexOf(SIGNS.charAt(j)) < 0) {
+                    fault(text, 1, ahead.length());
+                } else {
+                    scene.run();
+                    int q = ask(text);
+                    is("'" + text + "' the token stands", 1,
+                        e -> e.told(q, 0) != 1 || e.told(q, 1) > ahead.length() ? 1 : 0);
+                }
             }
         }
     }
