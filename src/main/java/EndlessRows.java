@@ -209,7 +209,7 @@ public final class EndlessRows {
         if (rowCount >= ROOM) {
             return refuse(NO_ROOM);
         }
-        Least least = asked(question, 1);
+        Least least = askedOf(question, 1);
         if (least == null) {
             return refuse(NOT_SO);
         }
@@ -329,7 +329,7 @@ public final class EndlessRows {
     }
 
     public long next(int question, long above) {
-        Least least = asked(question, 1);
+        Least least = askedOf(question, 1);
         if (least == null || above < -1 || above > TOP) {
             return NO_ANSWER;
         }
@@ -337,12 +337,12 @@ public final class EndlessRows {
     }
 
     public long many(int question) {
-        Least least = asked(question, 1);
+        Least least = askedOf(question, 1);
         return least == null ? NO_ANSWER : reckoner.howMany(least, base);
     }
 
     public long values(int question, long second) {
-        Least least = asked(question, 2);
+        Least least = askedOf(question, 2);
         if (least == null || second < 0 || second > 1L << 30) {
             return NO_ANSWER;
         }
@@ -459,7 +459,7 @@ public final class EndlessRows {
         return told.fault != 0 || told.spent != NONE ? null : told.least;
     }
 
-    private Least asked(int question, int names) {
+    private Least askedOf(int question, int names) {
         Least least = asked(question);
         return least != null && Integer.bitCount(questions[question].names) == names ? least : null;
     }
@@ -570,13 +570,13 @@ public final class EndlessRows {
 
         void put(int state, int digits, int to) {
             int place = state * fan + digits;
-            if (within(place, moves.length)) {
+            if (place >= 0 && place < moves.length) {
                 moves[place] = to;
             }
         }
 
         void putMark(int state, int mark) {
-            if (within(state, marks.length)) {
+            if (state >= 0 && state < marks.length) {
                 marks[state] = mark;
             }
         }
@@ -721,7 +721,7 @@ public final class EndlessRows {
         }
 
         void addName(int name) {
-            if (within(name, NAMES)) {
+            if (name >= 0 && name < NAMES) {
                 times[name]++;
                 names |= 1 << name;
             }
@@ -1382,8 +1382,10 @@ public final class EndlessRows {
         void decide(Part[] parts, Question told, Row[] rows, int rowCount, int base) {
             this.base = base;
             for (int i = 0; i < told.parts && i < parts.length; i++) {
-                if (!weavePart(parts[i], parts, rows, rowCount)) {
-                    told.spent = parts[i].place;
+                Part part = parts[i];
+                boolean ofRows = part.form == ROW_ATOM;
+                if (!(ofRows ? weaveRows(part, rows, rowCount) : weavePart(part, parts))) {
+                    told.spent = part.place;
                     return;
                 }
             }
@@ -1392,12 +1394,9 @@ public final class EndlessRows {
             }
         }
 
-        private boolean weavePart(Part part, Part[] parts, Row[] rows, int rowCount) {
+        private boolean weavePart(Part part, Part[] parts) {
             if (part.form == SUM_ATOM) {
                 return weaveSums(part);
-            }
-            if (part.form == ROW_ATOM) {
-                return weaveRows(part, rows, rowCount);
             }
             if (!within(part.left, parts.length)) {
                 return false;
@@ -1894,7 +1893,10 @@ public final class EndlessRows {
         }
     }
 
-    /** What the rows of each kind do when they act, and the bodies that ran. */
+    /**
+     * What the rows of each kind do when they act, and the bodies that ran. One method stands for an act: the body of
+     * another kind always runs around the MACHINE's.
+     */
     private static final class Acts {
         private static final int KEPT = 50;
 
@@ -1931,67 +1933,55 @@ public final class EndlessRows {
         private int reading(int x) {
             if (isGrown()) {
                 ran(20);
-                return plainReading(x) * 2;
             }
-            return plainReading(x);
-        }
-
-        private int plainReading(int x) {
             ran(10);
-            return x + number;
+            int read = x + number;
+            return isGrown() ? read * 2 : read;
         }
 
         private int stepping(int x) {
+            int at = x;
             if (kind == RING) {
                 ran(30);
-                return plainStepping(x) + 5;
             }
             if (kind == SOUGHT) {
                 ran(50);
-                return plainStepping(x - 1);
+                at = x - 1;
             }
-            return plainStepping(x);
-        }
-
-        private int plainStepping(int x) {
             ran(11);
-            return reading(x) * 3;
+            int stepped = reading(at) * 3;
+            return kind == RING ? stepped + 5 : stepped;
         }
 
         private int joining(int x) {
             if (kind == RING) {
                 ran(31);
-                return plainJoining(x) - x;
             }
             if (kind == PAIR) {
                 ran(40);
-                return plainJoining(x) * number;
             }
-            return plainJoining(x);
-        }
-
-        private int plainJoining(int x) {
             ran(12);
-            return x ^ wide;
+            int joined = x ^ wide;
+            if (kind == RING) {
+                return joined - x;
+            }
+            return kind == PAIR ? joined * number : joined;
         }
 
         private int telling(int x) {
+            int at = x;
+            int ahead = 0;
             if (isGrown()) {
                 ran(21);
-                return plainTelling(x + 1);
+                at = x + 1;
             }
             if (kind == SOUGHT) {
                 ran(51);
-                int joined = joining(x);
-                return joined ^ plainTelling(x);
+                ahead = joining(x);
             }
-            return plainTelling(x);
-        }
-
-        private int plainTelling(int x) {
             ran(13);
-            int stepped = stepping(x);
-            return stepped - joining(x);
+            int stepped = stepping(at);
+            return ahead ^ stepped - joining(at);
         }
     }
 }

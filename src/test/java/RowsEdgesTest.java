@@ -30,6 +30,7 @@ public final class RowsEdgesTest extends Court {
         aPairsSumIsModuloEight();
         aPairTellsTheSameOrTheGreater();
         aPairIsSixtyWide();
+        aPairThatTellsLittleIsSixtyWide();
         aSoughtRowIsOfOneName();
         thereAreTenRows();
         theLatestRowIsDropped();
@@ -601,6 +602,36 @@ public final class RowsEdgesTest extends Court {
             refused("sixty-one, no room", 2, e -> e.pair(3, 2, 1));
             refused("no such row, no room", 1, e -> e.pair(3, 10, 1));
             refused("no such way, no room", 1, e -> e.pair(3, 2, -1));
+        }
+    }
+
+    /** The next row: 0 where the digits but noughts are nought modulo some, else 1. */
+    private static void noughtOf(int round) {
+        counting(round, false);
+        int row = count(0) - 1;
+        does("drop", row, e -> e.drop(0));
+        int[] letters = new int[round];
+        Arrays.fill(letters, 1, round, 1);
+        sheet(5, 0, letters);
+        does("nought of " + round, row, e -> e.machine(4, 5, 0, round));
+    }
+
+    // Each turn of what looks for unlike states finds but one more, so none is left out on the way past 60.
+    private static void aPairThatTellsLittleIsSixtyWide() {
+        for (int base = 2; base < 4; base++) {
+            fresh(base);
+            noughtOf(4);
+            noughtOf(5);
+            noughtOf(3);
+            does("twenty", 3, e -> e.pair(0, 1, 2));
+            does("sixty", 4, e -> e.pair(3, 2, 2));
+            is("sixty", 60, e -> e.width(4));
+            noughtOf(7);
+            does("twenty-one", 6, e -> e.pair(2, 5, 2));
+            refused("84", 3, e -> e.pair(6, 0, 2));
+            refused("420", 3, e -> e.pair(4, 5, 2));
+            does("28", 7, e -> e.pair(5, 0, 2));
+            refused("84, turned around", 3, e -> e.pair(2, 7, 2));
         }
     }
 
